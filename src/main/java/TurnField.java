@@ -1323,9 +1323,15 @@ public final class TurnField {
             if (!areSets(rows, columns)) {
                 return false;
             }
-            int row = Integer.bitCount(Integer.highestOneBit(rows) - 1);
-            int column = Integer.bitCount(Integer.highestOneBit(columns) - 1);
-            return position.showsHeads(row, column);
+            return position.showsHeads(greatestOf(rows), greatestOf(columns));
+        }
+
+        private static int greatestOf(int set) {
+            int greatest = 0;
+            for (int i = 0; i < Position.STRIDE; i++) {
+                greatest = (set >> i & 1) != 0 ? i : greatest;
+            }
+            return greatest;
         }
 
         /** Is there a k-th move (of those that win)? Passed says how many were passed by. */
