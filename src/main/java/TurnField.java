@@ -288,14 +288,8 @@ public final class TurnField {
 
     public long solution(int k) {
         int last = now.gridColumns - 1;
-        if (k < 0 || k >= last) {
-            return 0L;
-        }
         steps.reduceGrid(now);
-        if (steps.hasLead(last)) {
-            return 0L;
-        }
-        return steps.besideLead(k, last);
+        return steps.hasLead(last) ? 0L : steps.besideLead(k, last);
     }
 
     // ---- the places as polynomials
@@ -313,17 +307,11 @@ public final class TurnField {
     }
 
     public long common(int k) {
-        if (k < 0 || k > 3) {
-            return 0L;
-        }
         polynomials.meetHalves(now.places);
         return polynomials.metCoefficient(k);
     }
 
     public long mended(int k) {
-        if (k < 0 || k > 3) {
-            return 0L;
-        }
         curve.mend(now.places);
         return curve.coefficient(k);
     }
@@ -469,7 +457,7 @@ public final class TurnField {
     }
 
     public int worth(int side, int n) {
-        if (side < 0 || side > 1 || n < 0 || n > 11) {
+        if (side < 0 || side > 1) {
             return NONE;
         }
         finder.tune(now);
@@ -518,7 +506,7 @@ public final class TurnField {
     }
 
     public int sets(int side, int n) {
-        if (side < 0 || side > 1 || n < 0 || n > 11) {
+        if (side < 0 || side > 1) {
             return NONE;
         }
         finder.tune(now);
@@ -834,7 +822,6 @@ public final class TurnField {
         private void clear() {
             for (int i = 0; i < vectors.length; i++) {
                 vectors[i] = 0L;
-                tags[i] = 0L;
             }
         }
 
@@ -1158,7 +1145,7 @@ public final class TurnField {
         private void readHeads() {
             int start = spot;
             readWord();
-            if (fault == 0 && !isWord(start, "heads")) {
+            if (!isWord(start, "heads")) {
                 blame(start, CANNOT_STAND);
             }
             int row = readNumber(0, draft.rows - 1);
@@ -1228,12 +1215,8 @@ public final class TurnField {
         }
 
         private void readWord() {
-            int start = spot;
             while (isBetween('a', 'z')) {
                 spot++;
-            }
-            if (spot == start) {
-                blame(start, CANNOT_STAND);
             }
         }
 
@@ -1579,7 +1562,7 @@ public final class TurnField {
             return false;
         }
 
-        /** What stands in another column of the row whose first one is in this column. */
+        /** What stands in another column of the row whose first one is in this column; 0 without one. */
         long besideLead(int column, int other) {
             for (int i = 0; i < rank; i++) {
                 if (leads[i] == column) {
@@ -1604,7 +1587,7 @@ public final class TurnField {
         private final long[] sum = new long[LENGTH];
         private final long[] spare = new long[LENGTH];
         private final long[] quotient = new long[LENGTH];
-        /** The powers 1, 2, 4, .. of x, less multiples of f. */
+        /** The powers 1, 2, 4, .. of x. */
         private final long[][] images = new long[LENGTH][LENGTH];
         private final long[][] parts = new long[MOST_ROOTS + 1][LENGTH];
         private final int[] results = new int[MOST_ROOTS];
@@ -1718,7 +1701,6 @@ public final class TurnField {
             raiseImage(bits);
             image[1] ^= 1L;
             meet(f, image, spare);
-            raiseImage(bits);
             partCount = 1;
             copy(f, parts[0]);
             for (int b = 0; b < bits; b++) {
@@ -1728,11 +1710,10 @@ public final class TurnField {
             readResults();
         }
 
-        /** The image becomes x to 2 to the bits, the images what it went through. */
+        /** The image becomes x to 2 to the bits, the images what it went through, less multiples of f. */
         private void raiseImage(int bits) {
             clear(image);
             image[1] = 1L;
-            divide(image, f, quotient);
             for (int i = 0; i < bits && i < images.length; i++) {
                 copy(image, images[i]);
                 for (int j = LENGTH / 2 - 1; j >= 0; j--) {
@@ -1761,7 +1742,6 @@ public final class TurnField {
                 long[] rest = parts[partCount];
                 copy(parts[i], rest);
                 copy(sum, image);
-                divide(image, parts[i], quotient);
                 meet(rest, image, spare);
                 int degree = degreeOf(rest);
                 if (degree > 0 && degree < degreeOf(parts[i])) {

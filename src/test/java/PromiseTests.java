@@ -225,6 +225,8 @@ public final class PromiseTests {
         fault("3 down 2", 2, 1);
         fault("3 upp 2", 2, 1);
         fault("3 u 2", 2, 1);
+        fault("3 xp 2", 2, 1);
+        fault("3 up 2 3 up 2 beads 1 1", 14, 1);
         fault("3 Up 2", 2, 1);
         fault("3 uP 2", 2, 1);
         fault("3 heads 2", 2, 1);
@@ -804,9 +806,38 @@ public final class PromiseTests {
         // one or two heads are turned at once, all three are not
         due("greatest", two.boards(1), 2);
         due("the least", two.boards(2), 7);
+        // one object, told one board behind the other
+        TurnField many = new TurnField();
+        for (int i = 0; i < 3; i++) {
+            told(many, "1 up 1 6 up 1");
+            due("half of 64", many.boards(0), 32);
+            told(many, "1 up 1 2 up 1");
+            due("half of 4", many.boards(0), 2);
+            due("both", many.boards(2), 3);
+            told(many, "2 up 8 6 up 8");
+            due("lost of 12 cells", many.boards(0), lostOfAll(many));
+            told(many, "1 exact 2 3 up 1");
+            due("no moves", many.boards(2), 0);
+            due("none longer", many.boards(1), 0);
+        }
         TurnField soon = board("1 up 1 4 ruler 2");
         // worths 1, 2, 1, 2: lost are 0, 5, 10, 15
         due("lost", soon.boards(0), 4);
+    }
+
+    /** By what the cells are worth: boards of worth 0 are lost. */
+    private static long lostOfAll(TurnField x) {
+        int columns = x.count(1);
+        int cells = x.count(0) * columns;
+        long lost = 0L;
+        for (int board = 0; board < 1 << cells; board++) {
+            long sum = 0L;
+            for (int i = 0; i < cells; i++) {
+                sum ^= (board >> i & 1) != 0 ? x.cell(i / columns, i % columns, 0) : 0L;
+            }
+            lost += sum == 0L ? 1L : 0L;
+        }
+        return lost;
     }
 
     private static void game() {
