@@ -641,8 +641,8 @@ public final class TurnField {
                 long h = rest >>> (1 << k);
                 if (h != 0L) {
                     long l = rest & LOW[k];
-                    inverse = product(inverse, rest ^ h);
-                    rest = product(l, l ^ h) ^ toppedBy(square(h), k);
+                    inverse = sharedOut(inverse, rest ^ h, k + 1);
+                    rest = sharedOut(l, l ^ h, k) ^ toppedBy(square(h), k);
                 }
             }
             return rest == 0L ? 0L : inverse;
@@ -769,7 +769,7 @@ public final class TurnField {
             long modulus = 1L;
             for (int i = 0; i < 4; i++) {
                 long prime = PRIMES[i];
-                if (order % prime == 0L) {
+                if (prime > 0L && order % prime == 0L) {
                     long part = order / prime;
                     long rest = restOf(raisedTo(a, part), raisedTo(base, part), prime);
                     n = joined(n, modulus, rest, prime);
@@ -1167,8 +1167,8 @@ public final class TurnField {
             }
         }
 
-        private boolean isBetween(char low, char high) {
-            return spot < length && bytes[spot] >= low && bytes[spot] <= high;
+        private static boolean isBetween(byte sign, char low, char high) {
+            return sign >= low && sign <= high;
         }
 
         /** Nothing more is read behind a fault: the first one along the text counts. */
@@ -1179,7 +1179,7 @@ public final class TurnField {
             skipBlanks();
             int start = spot;
             int number = 0;
-            while (isBetween('0', '9')) {
+            while (spot < length && isBetween(bytes[spot], '0', '9')) {
                 number = Math.min(TOO_MUCH, 10 * number + bytes[spot] - '0');
                 spot++;
             }
@@ -1215,7 +1215,7 @@ public final class TurnField {
         }
 
         private void readWord() {
-            while (isBetween('a', 'z')) {
+            while (spot < length && isBetween(bytes[spot], 'a', 'z')) {
                 spot++;
             }
         }
