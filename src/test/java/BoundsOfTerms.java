@@ -590,7 +590,7 @@ public final class BoundsOfTerms extends Bench {
         noFault("1up1 1up1" + times(" ", 111), 0);
         noFault(times(";", 111) + "1up1 1up1", 0);
         noFault("6up1 6up1" + times(" ", 103) + "heads5 5", 1);
-        noFault("6up1 6up1 " + times("heads0 ", 0) + "heads1 1" + times(" heads1 1", 11) + "  ", 1);
+        noFault("6up1 6up1 heads1 1" + times(" heads1 1", 11) + "  ", 1);
         noFault("6up1 6up1 heads1 1heads1 2heads1 3heads1 4heads1 5heads2 0heads2 1heads2 2heads2 3heads2 4heads2 5heads3 0", 12);
         fault("6up1 6up1" + times(" ", 104) + "heads 5", 120, 1);
         fault("6up1 6up1" + times(" ", 103) + "heads5 6", 119, 2);
