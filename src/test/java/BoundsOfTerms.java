@@ -8,6 +8,8 @@ public final class BoundsOfTerms extends Bench {
     };
 
     public static void main(String[] args) {
+        calls();
+        constants();
         numbers();
         rules();
         boardsAndMoves();
@@ -19,6 +21,41 @@ public final class BoundsOfTerms extends Bench {
         acts();
         noneFirst();
         finish("terms");
+    }
+
+    // ==== What it is, the public face
+
+    private static void calls() {
+        sentence("What it is", "An object is used for at most 512 calls after it has been made");
+        TurnField turned = new TurnField();
+        for (int call = 1; call <= 512; call++) {
+            due("turn, call " + call, turned.turn(2, 1), call % 2);
+        }
+        TurnField put = new TurnField();
+        for (int call = 1; call <= 511; call++) {
+            due("put, call " + call, put.put(call % 8, call), 1);
+        }
+        due("undo, call 512", put.undo(), 9);
+        TurnField fed = new TurnField();
+        for (int call = 1; call <= 512; call++) {
+            due("feed, call " + call, fed.feed(0, 0, 0, 0, 0), call <= 6 ? 20 * call : -1);
+        }
+        TurnField told = new TurnField();
+        for (int call = 1; call <= 512; call += 4) {
+            due("feed, call " + call, told.feed(0x32757031, 0x20337570, 0x32202020, 0x20202020, 0x20202020), 20);
+            due("tell", told.tell(), 0);
+            due("keep", told.keep(call % 2), 0);
+            due("back, call " + (call + 3), told.back(call % 2), 0);
+        }
+        TurnField none = new TurnField();
+        for (int call = 1; call <= 512; call++) {
+            due("undo, call " + call, none.undo(), -1);
+        }
+    }
+
+    private static void constants() {
+        sentence("The public face", "NONE = -1");
+        due("NONE", TurnField.NONE, -1);
     }
 
     // ==== I. NUMBERS, PLACES
