@@ -579,7 +579,7 @@ public final class TurnField {
             if (y == 0L) {
                 return 0L;
             }
-            if (y == 1L || k <= 0) {
+            if (y == 1L || k <= 0 || k > 6) {
                 return x;
             }
             int n = 1 << (k - 1);
